@@ -49,6 +49,13 @@ public final class JobTest {
     Due.due("35: at two", x.turn(0), 2);
     Due.due("35: others", x.turn(1), -1);
     Due.due("35: others", x.turn(-1), -1);
+    StringBuilder rows = new StringBuilder("page 2;index x plain on a;row 1 0 0;row 2 0 0;row 900 0 0;");
+    for (int a = 3; a < 20; a++) rows.append("row ").append(a).append(" 0 0;");
+    LeafSweep y = Due.told(rows.toString());
+    for (int a = 20; a < 25; a++) y.insert(a, 0, 0);
+    Due.due("35: thirteen leaves, two in the first, one in the last", y.turn(0), 3);
+    y.remove(0);
+    Due.due("35: now at two", y.turn(0), 2);
     Due.due("35: none", Due.told(HandTest.FOUR).turn(0), -1);
     Due.due("35: no entry", Due.told("index x plain on a;").turn(0), -1);
     x.begin(-1, 0, 0);

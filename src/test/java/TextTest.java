@@ -60,7 +60,10 @@ public final class TextTest {
   private static void tableFaults() {
     for (Object[] f : TABLE_FAULTS) {
       LeafSweep x = new LeafSweep();
-      Due.due("3: table() of '" + f[0] + "'", Due.table(x, (String) f[0]), (Integer) f[1] + 16 * (Integer) f[2]);
+      String text = (String) f[0];
+      int fault = (Integer) f[1] + 16 * (Integer) f[2];
+      Due.due("3: table() of '" + text + "'", Due.table(x, text), fault);
+      if ((Integer) f[2] < text.length()) Due.due("3: the first one wrong of '" + text + " Q", Due.table(x, text + " Q"), fault);
       Due.due("3: taken", x.count(9), 0);
     }
     String[] fine = {"", " \n ", "page 2;", "page 8 ; batch 1 ;", "page0008;batch0001;", "index longname plain on a;", "choose a from 5 to 3;",
@@ -153,7 +156,10 @@ public final class TextTest {
   private static void workFaults() {
     for (Object[] f : WORK_FAULTS) {
       LeafSweep x = Due.told("index x plain on a;row 1 1 1;");
-      Due.due("4: work() of '" + f[0] + "'", Due.work(x, (String) f[0]), (Integer) f[1] + 16 * (Integer) f[2]);
+      String text = (String) f[0];
+      int fault = (Integer) f[1] + 16 * (Integer) f[2];
+      Due.due("4: work() of '" + text + "'", Due.work(x, text), fault);
+      if ((Integer) f[2] < text.length()) Due.due("4: the first one wrong of '" + text + " Q", Due.work(x, text + " Q"), fault);
       Due.due("4: taken", x.count(9), 0);
     }
     LeafSweep x = Due.told("index x plain on a;row 1 1 1;");
