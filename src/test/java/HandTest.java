@@ -340,6 +340,15 @@ public final class HandTest {
     Due.due("15: it is carried out", x.step(), 0);
     Due.due("15: x", Due.leaves(x, 0), "1");
     Due.due("15: where it stands", x.found(0, 3), 2);
+    x = Due.told("index x plain on a;row 1 1 1;row 2 2 2;choose a is 1;");
+    x.begin(-1, 0, 0);
+    for (int i = 0; i < 19; i++) x.change(1, 0, 2 + (i + 1) % 2);
+    Due.due("9: the 39th", x.insert(3, 3, 3), 2);
+    Due.due("9: the 40th", x.insert(3, 3, 3), 3);
+    Due.due("9: the 41st", x.insert(3, 3, 3), -1);
+    Due.due("18: resumed", x.crash() + x.resume(), 1);
+    Due.due("20: undone", x.undo(), true);
+    Due.due("18: down once more", x.job(5), 1);
   }
 
   private static void stopping() {
@@ -373,6 +382,14 @@ public final class HandTest {
     x.step();
     x.step();
     Due.due("16: a record", x.stop(), false);
+    for (int r = 0; r < 4; r++) {
+      x = Due.told("index x once on b;row 0 10 0;row 1 11 0;row 2 12 0;row 3 13 0;choose a is " + r + ";");
+      x.begin(-1, 0, 0);
+      x.insert(9, 10 + r, 9);
+      Due.due("16: a once value twice, of row " + r, x.stop(), false);
+      x.remove(4);
+      Due.due("16: once again", x.stop(), true);
+    }
     x = Due.told("row 1 1 1;point loose at 1;");
     x.begin(-1, 0, 0);
     Due.due("16: behind all", x.stop(), true);

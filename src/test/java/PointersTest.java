@@ -39,6 +39,7 @@ public final class PointersTest {
     x.drop(2);
     x.begin(0, 0, 0);
     Due.due("48: bulk", x.check(0), 2);
+    Due.due("48: both upwards", Due.told("choose a is 20;row 30 0 0;row 20 0 0;row 10 0 0;point firm at 30;point firm at 10;").check(0), 2);
     Due.due("48: no rows", Due.told("choose a is 9;" + ROWS).check(0), 0);
     Due.due("48: no rows", Due.told("choose a is 9;" + ROWS).check(1), 0);
     Due.due("48: nothing", new LeafSweep().check(0), 0);
