@@ -25,7 +25,7 @@ public final class ModelTest {
   public static void main(String[] args) throws Exception {
     for (Method m : LeafSweep.class.getDeclaredMethods()) if (Modifier.isPublic(m.getModifiers())) FACE.put(m.getName(), m);
     for (Method m : Model.class.getDeclaredMethods()) if (FACE.containsKey(m.getName()) && Modifier.isPublic(m.getModifiers())) { m.setAccessible(true); TWIN.put(m.getName(), m); }
-    int runs = args.length > 0 ? Integer.parseInt(args[0]) : 1500;
+    int runs = args.length > 0 ? Integer.parseInt(args[0]) : 6000;
     long from = args.length > 1 ? Long.parseLong(args[1]) : 1;
     for (long seed = from; seed < from + runs; seed++) {
       ModelTest run = new ModelTest(seed);
