@@ -2,14 +2,18 @@
 final class Due {
   private static int wrong = 0;
   private static int looked = 0;
+  private static String where = "";
 
   private Due() { }
+
+  /** What is looked at from here on: told ahead of each answer that is not the one that is due. */
+  static void in(String test) { where = test.isEmpty() ? "" : test + ": "; }
 
   static void due(String what, long got, long want) {
     looked++;
     if (got != want) {
       wrong++;
-      System.out.println(what + " answered " + got + ", due is " + want);
+      System.out.println(where + what + " answered " + got + ", due is " + want);
     }
   }
 
@@ -19,7 +23,7 @@ final class Due {
     looked++;
     if (!got.equals(want)) {
       wrong++;
-      System.out.println(what + " answered\n  " + got + ", due is\n  " + want);
+      System.out.println(where + what + " answered\n  " + got + ", due is\n  " + want);
     }
   }
 
