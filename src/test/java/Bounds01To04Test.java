@@ -525,6 +525,13 @@ public final class Bounds01To04Test extends Bounds {
     wrong(4, "row ^1000 1000 Q;");
     wrong(2, "point firm at ^1 Q");
     wrong(1, "index x plain ^at page");
+    String[] linesWithin = {"page ^page 3; Q", "batch ^page 3; Q", "index ^page 3; Q", "index x ^page 3; Q", "index x plain ^page 3; Q", "index x plain on ^page 3; Q", "index x plain on a^page 3; Q".replace("a^page", "a ^page"),
+        "row ^page 3; Q", "row 1 ^page 3; Q", "row 1 1 ^page 3; Q", "row 1 1 1 ^page 3; Q", "row 1 1 1;point ^page 3; Q", "row 1 1 1;point firm ^page 3; Q", "row 1 1 1;point firm at ^page 3; Q", "row 1 1 1;point firm at 1 ^page 3; Q",
+        "choose ^page 3; Q", "choose not ^page 3; Q", "choose a ^page 3; Q", "choose a is ^page 3; Q", "choose a from ^page 3; Q", "choose a from 1 ^page 3; Q", "choose a from 1 to ^page 3; Q", "choose a over ^page 3; Q",
+        "choose every ^page 3; Q", "choose twin ^page 3; Q", "choose pointed ^page 3; Q", "choose pointed and ^page 3; Q", "part ^page 3; Q"};
+    for (String text : linesWithin) wrong(1, text);
+    wrong(2, "point firm at ^1; page 3; Q");
+    wrong(4, "choose a from ^1000; page 3; Q");
   }
 
   @Says("of the first token from the left that is wrong the least:")
@@ -629,6 +636,49 @@ public final class Bounds01To04Test extends Bounds {
     is("an empty one", Due.table(x, ""), 0);
     is("no row", x.count(3), 0);
     is("no index", x.count(2), 0);
+  }
+
+  @Says("Without a FAULT a TABLE is the TABLE from then on:")
+  static void promise3_nothingStaysOfTablesAhead() {
+    LeafSweep x = new LeafSweep();
+    String much = "page 8;batch 8;index k once on a;index l down on b;row 5 5 5;row 6 6 6;point firm at 5;point loose at 6;choose not a is 5;part a is 7;";
+    for (int i = 0; i < 4; i++) {
+      is("much", Due.table(x, much + (i < 2 ? "" : "Q")) > 0, i >= 2);
+      is("little", Due.table(x, "index p partial on c;row 5 5 5;"), 0);
+      int[] counts = {4, 2, 1, 1, 1, 0, 0, 0, 0, 0};
+      for (int w = 0; w < 10; w++) is("count(" + w + ")", x.count(w), counts[w]);
+      is("choose", x.fits(0, 0), true);
+      is("part", x.fits(0, 1), true);
+      is("KIND", x.index(0, 0), 3);
+      is("p", leaves(x, 0), "0");
+      is("no name of it", Due.work(x, "pack k;"), 2 + 16 * 5);
+      is("no pointer of it", x.change(0, 0, 9), true);
+      is("JUDGED of no WORK", x.judged(1), 1);
+    }
+  }
+
+  @Says("no JOB is there, nothing SPENT, no CURSOR, no WORK, nothing can be undone.")
+  static void promise3_nothingStaysOfAJob() {
+    String table = "batch 8;index x plain on a;row 1 1 1;row 2 2 2;row 3 3 3;choose a from 1 to 2;";
+    LeafSweep x = begun(table, 2);
+    x.insert(5, 5, 5);
+    x.step();
+    is("taken while one is gone SINCE and one aside", Due.table(x, table), 0);
+    is("begin", x.begin(-1, 0, 0), 2);
+    int[] job = {0, 0, 3, 0, 0, 0, 0};
+    for (int w = 0; w < 7; w++) is("job(" + w + ")", x.job(w), job[w]);
+    x.step();
+    x.step();
+    is("gone", x.record(0, 1), 2);
+    is("SPENT", x.record(0, 2), 3);
+    is("taken behind a RECORD", Due.table(x, table), 0);
+    x.begin(-1, 0, 0);
+    for (int w = 0; w < 7; w++) is("job(" + w + ")", x.job(w), job[w]);
+    x.crash();
+    is("taken while it is DOWN", Due.table(x, table), 0);
+    x.begin(-1, 0, 0);
+    for (int w = 0; w < 7; w++) is("job(" + w + ")", x.job(w), job[w]);
+    is("not DOWN", x.step(), 0);
   }
 
   @Says("its ROWS are put into each INDEX by numbers,")

@@ -162,6 +162,21 @@ public final class Bounds09To13Test extends Bounds {
     is("the number is free still", x.insert(5, 1, 0), 3);
   }
 
+  @Says("but if the JOB is AT that INDEX these are laid on the SIDE list instead, in this order, and cost 1 each;")
+  static void promise9_behindAllOfFourIndexes() {
+    String four = "index k plain on a;index l down on b;index m plain on c;index n partial on a;";
+    LeafSweep x = begun(four + "row 1 1 1;row 2 2 2;choose a is 1;", 1);
+    steps(x, 4);
+    is("behind all", x.job(0), 4);
+    int spent = x.count(6);
+    is("insert", x.insert(3, 3, 3), 2);
+    is("PUT into all", x.row(2, 5), 15);
+    is("2 each", x.count(6), spent + 8);
+    is("change", x.change(1, 0, 5), true);
+    is("remove", x.remove(2), true);
+    is("nothing aside", x.job(6), 0);
+  }
+
   // ---------------------------------------------------------------- promise 10
 
   @Says({"`boolean remove(int row)`: REMOVE: true; false: others, refused.", "REMOVE a VISIBLE ROW: it is THERE no more;"})
@@ -228,6 +243,17 @@ public final class Bounds09To13Test extends Bounds {
     for (int p = 0; p < 6; p++) is("POINTER " + p, x.pointer(p, 1), then[p]);
     x.stop();
     for (int p = 0; p < 6; p++) is("BEGIN did not change POINTER " + p, x.pointer(p, 1), then[p]);
+  }
+
+  @Says("else, if no other one has it, loose POINTERS at that value point nowhere, bound ones are GONE.")
+  static void promise10_twelvePointersAtValue0() {
+    LeafSweep x = told("row 0 0 0;row 999 0 0;" + "point loose at 0;point bound at 0;".repeat(4));
+    for (int p = 8; p < 12; p++) x.point(p < 11 ? 1 : 0, p < 11 ? 0 : 999);
+    is("the 12th is firm", x.remove(1), false);
+    is("no firm one at 0", x.remove(0), true);
+    for (int p = 0; p < 11; p++) is("POINTER " + p, x.pointer(p, 1), p < 8 && p % 2 == 1 ? -2 : -1);
+    is("firm", x.pointer(11, 1), 999);
+    is("firm", x.remove(1), false);
   }
 
   @Says("By these, for each INDEX, by numbers: the ENTRY with the old value,")

@@ -136,6 +136,19 @@ public final class Bounds14To21Test extends Bounds {
     is("it stays", x.pointer(0, 1), -1);
   }
 
+  @Says("Else the JOB is ON; loose POINTERS at values that no VISIBLE ROW has then point nowhere, bound ones are GONE;")
+  static void promise14_twelvePointersAtValue0() {
+    LeafSweep x = told("choose b is 0;row 0 0 0;row 999 1 0;" + "point loose at 0;point bound at 0;".repeat(4));
+    for (int p = 8; p < 12; p++) x.point(p < 11 ? 1 : 0, p < 11 ? 0 : 999);
+    is("none hinders", x.hinders(), 0);
+    is("begin", x.begin(-1, 0, 0), 1);
+    for (int p = 0; p < 11; p++) is("POINTER " + p, x.pointer(p, 1), p < 8 && p % 2 == 1 ? -2 : -1);
+    is("firm", x.pointer(11, 1), 999);
+    is("stop", x.stop(), true);
+    for (int p = 0; p < 11; p++) is("as ahead, POINTER " + p, x.pointer(p, 1), 0);
+    is("firm", x.pointer(11, 1), 999);
+  }
+
   @Says({"it COMES to the first INDEX.", "COME to an INDEX (the first one, the next one): while it has none LEFT it is the next one.", "If there is one, the JOB is AT it, its WAY is what it is now, and what that costs is SPENT; this is a STAND to go back to."})
   static void promise14_comesToTheFirstIndex() {
     LeafSweep x = begun(TWO, 2);
@@ -238,6 +251,33 @@ public final class Bounds14To21Test extends Bounds {
     is("x", leaves(x, 0), "2 3");
   }
 
+  @Says("in its order (each costs what a PUT or a TAKE costs), it is empty,")
+  static void promise15_row0AndValue0OnTheSideList() {
+    LeafSweep x = begun("index x plain on a;row 7 0 0;row 2 0 0;row 0 0 0;choose a is 2;", 1);
+    x.change(0, 0, 0);
+    is("PUT 0, row 0", x.side(1), 0);
+    x.remove(2);
+    x.change(0, 0, 3);
+    is("TAKEN 0, row 0", x.side(3), -40000);
+    x.change(0, 0, 0);
+    is("step", x.step(), 1);
+    is("row 0 at 0", leaves(x, 0), "0");
+    is("none MISSING", x.missing(0), 0);
+    is("none STALE", x.stale(0), 0);
+    is("PASS 2, aside 7, RECORD 1, 7 times 2", x.count(6), 24);
+    x = begun("index x plain on a;row 0 0 0;row 2 0 0;choose a is 2;", 1);
+    for (int r = 2; r < 30; r++) x.insert(999, 0, 0);
+    x.step();
+    is("row 29 at 999", x.leaf(0, x.index(0, 3) - 1, x.index(0, 2) > 0 ? lastOf(x) : 0), 29);
+    is("29 ENTRIES", x.index(0, 2), 29);
+  }
+
+  private static int lastOf(LeafSweep x) {
+    int i = 0;
+    while (x.leaf(0, x.index(0, 3) - 1, i + 1) != -1) i++;
+    return i;
+  }
+
   @Says("and the JOB COMES to the next INDEX.")
   static void promise15_comesToTheNext() {
     LeafSweep x = begun("page 2;batch 2;index k plain on a;index p partial on a;index q partial on b;index m down on b;row 1 1 0;row 2 2 0;row 3 3 0;choose a from 1 to 2;part a is 3;", 2);
@@ -331,6 +371,32 @@ public final class Bounds14To21Test extends Bounds {
     y.insert(1, 1, 1);
     y.remove(2);
     is("the new one is THERE no more", y.stop(), true);
+  }
+
+  @Says("refused, if by it a once INDEX would have a value in two VISIBLE ROWS.")
+  static void promise16_theFirstRowAndTheFirstIndex() {
+    String[] others = {"", "index k plain on a;", "index k plain on a;index l plain on a;", "index k plain on a;index l plain on a;index m once on c;"};
+    for (String head : others) {
+      for (String tail : new String[] {"", "index z plain on c;"}) {
+        if (head.contains("m once") && !tail.isEmpty()) continue;
+        LeafSweep x = begun(head + "index o once on b;" + tail + "row 1 0 1;row 2 5 2;row 3 6 3;choose a from 1 to 2;", 2);
+        x.insert(9, 0, 9);
+        is("row 0's, of " + head, x.stop(), false);
+        x.change(3, 1, 5);
+        is("row 1's, of " + head, x.stop(), false);
+        x.change(3, 1, 7);
+        is("none's", x.stop(), true);
+      }
+    }
+  }
+
+  @Says("Else the SIDE list is carried out; the JOB is over, nobody is CHOSEN;")
+  static void promise16_behindAllOfFourIndexes() {
+    LeafSweep x = begun("index k partial on a;index l partial on b;index m partial on c;index n partial on a;row 1 1 1;part a is 2;", 1);
+    is("behind all", x.job(0), 4);
+    is("stop", x.stop(), true);
+    is("VISIBLE", x.count(4), 1);
+    is("nothing SPENT", x.count(6), 0);
   }
 
   @Says("Else the SIDE list is carried out; the JOB is over, nobody is CHOSEN;")
@@ -486,6 +552,19 @@ public final class Bounds14To21Test extends Bounds {
     x.crash();
     is("of y", x.resume(), 3);
     is("without a TABLE", new LeafSweep().resume(), -1);
+  }
+
+  @Says("(0: behind all);")
+  static void promise18_behindAllOfFourIndexes() {
+    LeafSweep x = begun("index k plain on a;index l down on b;index m plain on c;index n partial on a;row 1 1 1;row 2 2 2;choose a is 1;", 1);
+    steps(x, 3);
+    x.crash();
+    is("AT the fourth", x.resume(), 1);
+    x.step();
+    int spent = x.count(6);
+    x.crash();
+    is("behind all", x.resume(), 0);
+    is("at no cost", x.count(6), spent);
   }
 
   @Says("AT an INDEX what the WAY (as it was) costs for those LEFT is SPENT.")
@@ -650,6 +729,53 @@ public final class Bounds14To21Test extends Bounds {
     is("nothing", x.undo(), false);
   }
 
+  @Says("UNDO: all of these but CRASH,")
+  static void promise20_eachAsTheFirstThing() {
+    String table = "page 2;batch 2;index x plain on a;index y down on b;row 1 5 0;row 2 6 0;row 3 7 0;row 4 8 0;point loose at 1;point bound at 2;choose a from 1 to 2;";
+    for (int what = 0; what < 7; what++) {
+      LeafSweep x = told(table);
+      for (int i = 0; i < 3; i++) x.insert(9, 9, 9);
+      x.remove(5);
+      String ahead = sight(x);
+      boolean did = what == 0 ? x.insert(8, 8, 8) == 7 : what == 1 ? x.change(4, 0, 8) : what == 2 ? x.remove(3) : what == 3 ? x.point(0, 9) == 2 : what == 4 ? x.drop(0) : what == 5 ? x.pack(0) > 0 : x.begin(0, 1, 2) == 2;
+      is("done " + what, did, true);
+      is("not as ahead", sight(x).equals(ahead), false);
+      is("undo", x.undo(), true);
+      is("as ahead of " + what, sight(x), ahead);
+    }
+  }
+
+  @Says("UNDO: all of these but CRASH,")
+  static void promise20_allThatAJobHas() {
+    LeafSweep x = begun(SIDED, 1);
+    x.insert(7, 8, 9);
+    x.change(1, 0, 9);
+    x.insert(6, 5, 4);
+    String ahead = sight(x);
+    is("step: the SIDE list is empty", x.step(), 0);
+    is("undo", x.undo(), true);
+    is("it is there again", sight(x), ahead);
+    is("in its order", x.side(0) == 2007 && x.side(1) == 1002 - 40000 && x.side(2) == 1009 && x.side(3) == 3006, true);
+    x.point(0, 9);
+    x.undo();
+    is("there still", sight(x), ahead);
+    x = begun("batch 2;index x plain on a;" + up(6), 6);
+    steps(x, 3);
+    x.point(0, 0);
+    x.step();
+    x.undo();
+    steps(x, 3);
+    is("how many were gone at the RECORDS", x.record(0, 1) * 100 + x.record(1, 1) * 10 + x.record(2, 1), 246);
+    x = told("batch 1;index x plain on a;index y plain on a;index z plain on a;index w plain on a;" + up(20));
+    for (int i = 20; i < 30; i++) x.insert(i, i, i);
+    x.begin(-1, 0, 0);
+    steps(x, 119);
+    x.step();
+    x.undo();
+    for (int k = 0; k < 119; k++) is("RECORD " + k, x.record(k, 0) * 100 + x.record(k, 1), k / 30 * 100 + k % 30 + 1);
+    is("119", x.job(4), 119);
+  }
+
   @Says("the last 16, one by one")
   static void promise20_theLast16() {
     LeafSweep x = told("index x plain on a;row 0 0 0;");
@@ -764,6 +890,37 @@ public final class Bounds14To21Test extends Bounds {
       is(w[0] + " VISIBLE", x.judged(1), Integer.parseInt(w[2]));
       is(w[0] + " SPENT", x.judged(2), Integer.parseInt(w[3]));
     }
+  }
+
+  @Says("JUDGED: the WORK from the TABLE as told:")
+  static void promise21_itsNumbers() {
+    String table = "index o once on a;index p once on b;index q once on c;index r plain on a;row 1 2 3;row 4 5 6;row 10 20 30;";
+    String[][] works = {{"insert 7 8 9;insert 7 0 0;", "1"}, {"insert 7 8 9;insert 0 8 0;", "1"}, {"insert 7 8 9;insert 0 0 9;", "1"}, {"insert 7 8 9;insert 8 9 7;", "-1"}, {"insert 7 8 9;insert 9 7 8;", "-1"},
+        {"insert 1 0 0;", "0"}, {"insert 0 2 0;", "0"}, {"insert 0 0 3;", "0"}, {"insert 2 3 1;", "-1"}, {"insert 3 1 2;", "-1"}, {"insert 0 999 0;insert 999 0 999;", "-1"},
+        {"change 1 a 7;insert 7 0 0;", "1"}, {"change 1 b 7;insert 0 7 0;", "1"}, {"change 1 c 7;insert 0 0 7;", "1"}, {"change 1 a 7;insert 4 7 7;", "-1"}, {"change 1 b 7;insert 7 5 7;", "-1"}, {"change 1 c 7;insert 7 7 6;", "-1"},
+        {"change 2 b 2;", "0"}, {"change 2 b 5;", "0"}, {"change 2 b 4;", "-1"}, {"change 2 c 5;", "-1"}, {"change 3 a 9;", "0"}, {"remove 2;insert 10 20 30;", "-1"}, {"remove 1;insert 10 0 0;", "1"}};
+    for (String[] w : works) {
+      LeafSweep x = told(table);
+      is(w[0], Due.work(x, w[0]), 0);
+      is(w[0], x.judged(0), Integer.parseInt(w[1]));
+    }
+    LeafSweep x = told("page 2;index x plain on a;index y plain on b;row 4 0 0;row 3 1 0;row 2 2 0;row 1 3 0;");
+    is("x", leaves(x, 0), "3 2|1|0");
+    is("y", leaves(x, 1), "0 1|2 3");
+    Due.work(x, "pack y;");
+    is("two LEAVES", x.judged(2), 2);
+    Due.work(x, "pack x;");
+    is("three LEAVES", x.judged(2), 3);
+    Due.work(x, "pack x;pack x;");
+    is("three, then two", x.judged(2), 5);
+    x = told("index x plain on a;row 1 1 1;row 2 2 2;choose a is 1;");
+    x.begin(-1, 0, 0);
+    is("by another batch", x.crashes(1, 1), 2);
+    Due.work(x, "begin;step 2;");
+    is("the TABLE's batch", x.judged(2), 3);
+    LeafSweep y = new LeafSweep();
+    Due.work(y, "insert 0 0 0;remove 0;");
+    is("nothing points at 0 at first", y.judged(0), -1);
   }
 
   @Says({"begin: of all);", "how many ROWS are VISIBLE at last; SPENT at last."})

@@ -283,6 +283,22 @@ public final class Bounds22To32Test extends Bounds {
     is("without a TABLE", new LeafSweep().missing(0), -1);
   }
 
+  @Says("MISSING: VISIBLE ROWS that BELONG to it, but of which the ENTRY (as it is now) is not in it (bits).")
+  static void promise28_row0And30Entries() {
+    LeafSweep x = told("index x plain on a;" + up(20) + "choose a is 5;");
+    for (int r = 20; r < 30; r++) x.insert(r, 0, 0);
+    x.begin(-1, 0, 0);
+    is("30 ENTRIES", x.index(0, 2), 30);
+    x.change(29, 0, 999);
+    is("behind all", x.missing(0), 1 << 29);
+    x.change(0, 0, 500);
+    is("row 0, too", x.missing(0), (1 << 29) + 1);
+    is("STALE", x.stale(0), (1 << 29) + 1);
+    x.change(29, 0, 29);
+    is("row 0", x.missing(0), 1);
+    is("row 0", x.stale(0), 1);
+  }
+
   // ---------------------------------------------------------------- promise 29
 
   @Says({"`int side(int i)`: SIDE; Integer.MIN_VALUE: none such.", "SIDE, the i-th (from 0): 1000 * the ROW + the value (PUT), or that less 40000 (TAKEN)."})
@@ -356,6 +372,18 @@ public final class Bounds22To32Test extends Bounds {
     is("as the LEAVES stand while the JOB is AT it", x.splits(0, 5), true);
     x.step();
     is("one is gone", x.splits(0, 5), false);
+  }
+
+  @Says("with a key (0 to 999) would make two LEAVES of one.")
+  static void promise30_noLeafWhereThereHasBeenAFullOne() {
+    LeafSweep x = told("page 2;index x plain on a;row 1 0 0;row 2 0 0;");
+    is("a full one", x.splits(0, 5), true);
+    is("another TABLE", Due.table(x, "page 2;index x plain on a;"), 0);
+    is("no LEAF", x.splits(0, 5), false);
+    is("no cost to look at", x.costs(0, 0), 0);
+    is("no ENTRY", x.leaf(0, 0, 0), -1);
+    is("none LEFT", x.lefts(0, 0), -1);
+    is("no LEAF is sparse", x.sparse(0), 0);
   }
 
   // ---------------------------------------------------------------- promise 31

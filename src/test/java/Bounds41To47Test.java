@@ -79,6 +79,17 @@ public final class Bounds41To47Test extends Bounds {
     is("nothing begins", x.job(0), -1);
   }
 
+  @Says("2: LEAVES of all INDEXES,")
+  static void promise42_leavesOfFourIndexes() {
+    LeafSweep x = told("page 2;" + FOUR_INDEXES + up(5) + "choose a is 0;");
+    is("three each", x.after(0, 2), 12);
+    x.begin(-1, 0, 0);
+    is("the same while there is a JOB", x.after(0, 2), 12);
+    is("row 0 was not alone", x.after(150, 2), 12);
+    is("four of them: three, three, three, four", told("page 2;index k plain on a;index l plain on b;index m down on c;index n down on a;row 1 5 5;row 2 5 5;row 3 5 5;row 4 5 5;row 5 5 5;").after(0, 2), 3 + 3 + 3 + 4);
+    is("no INDEX", told(up(3)).after(0, 2), 0);
+  }
+
   @Says("RESUMED ahead, if it is DOWN; as far as can be):")
   static void promise42_resumedAheadAndAsFarAsCanBe() {
     LeafSweep x = begun(FOUR, 3);
