@@ -433,6 +433,13 @@ public final class Bounds14To21Test extends Bounds {
     is("stop", x.stop(), true);
     for (int p = 0; p < 7; p++) is("once more POINTER " + p, x.pointer(p, 1), due[p]);
     x = begun(table, 2);
+    x.drop(0);
+    is("undo of drop", x.undo(), true);
+    is("nowhere again", x.pointer(0, 1), -1);
+    is("stop", x.stop(), true);
+    int[] all = {7, 7, 8, 8, 9, 9};
+    for (int p = 0; p < 6; p++) is("not DROPPED, POINTER " + p, x.pointer(p, 1), all[p]);
+    x = begun(table, 2);
     x.step();
     is("over", x.count(4), 12);
     x.insert(7, 0, 0);
